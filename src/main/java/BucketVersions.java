@@ -329,8 +329,8 @@ public final class BucketVersions {
     private int entryBehind(int entry, boolean folders) {
         int next = EMPTY;
         for (int slot = 0; slot < versionCount; slot++) {
-            int key = versionKeys[slot];
-            if (isListed(key)) {
+            if (isListed(slot)) {
+                int key = versionKeys[slot];
                 int candidate = folders ? folded(key) : key;
                 if (candidate > entry && (next == EMPTY || candidate < next)) {
                     next = candidate;
@@ -340,8 +340,10 @@ public final class BucketVersions {
         return next;
     }
 
-    private boolean isListed(int key) {
-        return firstLetters(key, bufferLength) == buffer && isPresent(key);
+    /** Whether a listing shows the slot's version, which it does for the current one of a key alone. */
+    private boolean isListed(int slot) {
+        int key = versionKeys[slot];
+        return firstLetters(key, bufferLength) == buffer && currentSlot(key) == slot;
     }
 
     // Cutting keys off keeps their order, so a folder stands where the first of its keys would.
